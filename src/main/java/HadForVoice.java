@@ -1581,9 +1581,7 @@ public final class HadForVoice {
             town.copyPlayFrom(now);
             found = 0;
             for (int p = 0; p < town.people; p++) {
-                if ((town.whole >> p & 1) == 0) {
-                    goOn(p, 0, k);
-                }
+                goOn(p, 0, k);
             }
             return found;
         }

@@ -182,18 +182,19 @@ public final class ChangesTest {
 
     private static void theLedger() {
         HadForVoice x = new HadForVoice();
-        x.person(1, 0, 1, 0);
-        x.person(1, 0, 1, 0);
+        for (int p = 0; p < 3; p++) {
+            x.person(1, 0, 1, 0);
+        }
         for (int i = 0; i < 14; i++) {
             x.jar(1, 9);
-            x.make(i % 2, 9);
+            x.make(i % 3, 9);
             due(16, "in the ledger", x.state(3), Math.min(12, i + 1));
             due(52, "many(2)", x.many(2), Math.min(12, i + 1));
-            x.change(i % 2, 1, 0);
+            x.change(i % 3, 1, 0);
         }
         for (int i = 13; i >= 2; i--) {
-            x.change(i % 2, 1, 1);
-            due(16, "back()", x.back(), i % 2 * 10 + 9);
+            x.change(i % 3, 1, 1);
+            due(16, "back()", x.back(), i % 3 * 10 + 9);
         }
         due(16, "the first two fell out", x.back(), -3);
         HadForVoice y = new HadForVoice();

@@ -110,6 +110,12 @@ public final class GameTest {
         x.forget();
         x.report(9, 9, 50);
         due(34, "TIMES 0 to 3", x.span(0), 4);
+        x.forget();
+        x.report(50, 51, 0);
+        due(34, "TIMES 0 and FEE 0", x.span(0), 1);
+        due(34, "TIMES 0", x.span(1), 0);
+        due(34, "FEE 0", x.span(2), 0);
+        due(35, "it fits", x.liar(), -3);
     }
 
     private static void liar() {

@@ -186,6 +186,9 @@ public final class HostTest {
         due(49, "3 isn't there, as bytes", x.taken(0, 10), -11);
         x.person(2, 0, 1, 0);
         due(49, "another 3 is", x.taken(0, 2), 3);
+        x.shelf(3, 0, 0);
+        due(49, "PERSON 0", x.taken(3, 1), 0);
+        due(49, "PERSON 0 as another", x.taken(3, 2), -13);
     }
 
     private static void rowsOnShelves() {
@@ -230,6 +233,7 @@ public final class HostTest {
         x.remake(2, 2);
         act(x, 2, 0, 20, 27, 10);
         act(x, 2, 1, 20, 25 ^ 2, 30, 11, 10);
+        act(x, 2, 1, 22, 25, 30, 11, 10);
         act(x, 2, 2, 19, 3, 12);
         act(x, 2, 3, 20, 25 ^ 2 ^ 7, 13, 30, 11, 10);
         x.remake(2, 3);

@@ -79,10 +79,17 @@ public final class KeptTest {
         due(54, "asked by the rules", x.personOf(0, 4), 16);
         x.rules();
         due(54, "no rules", x.personOf(0, 4), 11);
+        x.make(1, 2);
+        x.forget();
+        x.report(0, 0, 50);
+        due(54, "another ledger", x.back(), 12);
+        due(54, "other laws", x.span(0), 4);
         due(54, "again() again", x.again(), 3);
+        due(54, "the laws again", x.span(0), 3);
         due(54, "z again", x.seed(78), 77);
         due(54, "the ledger again", x.many(2), 1);
         due(54, "rules again", x.many(1), 1);
+        due(54, "back() again", x.back(), 9);
     }
 
     private static void whatIsNot() {

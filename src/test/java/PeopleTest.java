@@ -142,6 +142,7 @@ public final class PeopleTest {
         due(6, "those whom 2 meets", x.personOf(2, 6), 2);
         due(6, "meets(2, 0, true)", x.meets(2, 0, true), 0);
         due(6, "those whom 0 meets", x.personOf(0, 6), 6);
+        due(6, "meets(1, 2, true)", x.meets(1, 2, true), 1);
         due(6, "meets(1, 1, true)", x.meets(1, 1, true), -1);
         due(6, "meets(0, 3, true)", x.meets(0, 3, true), -1);
         due(6, "meets(3, 0, true)", x.meets(3, 0, true), -1);

@@ -33,6 +33,10 @@ public final class RingsTest {
         x.change(1, 2, 0);
         due(26, "two now", x.rings(2), 1);
         due(27, "ring(2, 1)", x.ring(2, 1), 1);
+        x.change(1, 2, 1);
+        x.change(2, 1, 1);
+        due(26, "1 is whole, though 2 has what it needs", x.rings(3), 0);
+        due(26, "0 and 2", x.rings(2), 1);
     }
 
     /** Three who have 0 and need 1, three who have 1 and need 0, all of whom MEET. */
@@ -101,6 +105,9 @@ public final class RingsTest {
         due(28, "comes(1, 4)", x.comes(1, 4), 4 + 8);
         due(29, "dearest(0, 4), the least of these", x.dearest(0, 4), 2);
         due(29, "dearest(0, 0)", x.dearest(0, 0), 3);
+        x.worth(0, 20);
+        due(29, "dearest(3, 1), the least of 1 and 0", x.dearest(3, 1), 0);
+        x.worth(0, 10);
         due(29, "dearest(2, 1), the least of 4 and 3", x.dearest(2, 1), 3);
         x.change(1, 1, 3);
         due(28, "the same thing isn't exchanged", x.comes(1, 4), 8);
@@ -114,6 +121,8 @@ public final class RingsTest {
         due(28, "one by one", y.comes(0, 1), 7);
         y.meets(0, 5, true);
         due(28, "what it left with others costs more", y.comes(0, 4), 39);
+        y.worth(1, 25);
+        due(28, "a dearer one behind a cheaper one", y.comes(0, 1), 39);
         y.worth(1, 50);
         due(28, "those who don't meet it", y.comes(1, 1), 3);
         due(28, "nor by way of it", y.comes(1, 4), 3);

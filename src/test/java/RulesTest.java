@@ -92,7 +92,7 @@ public final class RulesTest {
             "has = 10", "need = 40", "coins = 50", "whole = 2", "number = 2", "9999 > 0000", "1 < 2", "not 1 > 2",
             "not not 1 < 2", "1 = 1 or 1 = 2 and 1 = 2", "(1 = 1)", "(((1 = 1)))", "not (1 = 2 or 2 = 1)",
             "((1=1)) and ((1=1) or ((2=3)))", "1=2 or 1=2 or has<need", "not 1=2 and not 2=1", "1=1 and(1=2 or 1=1)",
-            "2 = 2 and 3 = 3 and 4 = 4"
+            "2 = 2 and 3 = 3 and 4 = 4", "10 = has", "40 = need", "50 = coins", "2 = whole", "2 = number"
         };
         String[] wrong = {
             "has = 11", "need < 40", "coins > 50", "whole = 3", "number < 2", "1 > 1", "1 < 1", "not 1 = 1",
@@ -155,6 +155,16 @@ public final class RulesTest {
         fault("maid if(1=1)and(1=1", 19);
         fault("maidfree;", 0);
         fault("maid morefive;", 5);
+        fault("maidz free;", 0);
+        fault("zmaid free;", 0);
+        fault("maid freea;", 5);
+        fault("maid if 1`2 free;", 9);
+        fault("maid if 1{2 free;", 9);
+        fault("maid if 1/2 free;", 9);
+        fault("maid if 1:2 free;", 9);
+        fault(";".repeat(200), 0);
+        fault("maid if " + "not ".repeat(48), 200);
+        fault("maid if " + "(1=1)and".repeat(24), 200);
         String eight = "maid free;maid free;maid free;maid free;maid free;maid free;maid free;maid free;";
         fault(eight + " maid free;", 81);
         fault(eight + " nobody", 81);
