@@ -784,7 +784,7 @@ public final class HadForVoice {
         final int[] meets = new int[PEOPLE];
         /** Kept beside what they HAVE and NEED, since a search asks for it at every step. */
         int whole;
-        /** PEOPLE to be taken as not there; only a search for who bars it sets them. */
+        /** PEOPLE to be taken as not there, so not as WHOLE either; only a search for who bars it sets them. */
         int out;
         final int[] worth = new int[THINGS];
         final int[] jar = new int[THINGS];
@@ -871,11 +871,12 @@ public final class HadForVoice {
             int had = worth[has[p]];
             int needed = worth[needs[p]];
             int price = needed > had ? needed - had + fee : fee;
+            int wholeHere = whole & ~out;
             if (rules.count > 0) {
-                rules.look(had, needed, coins[p], Integer.bitCount(whole), p);
+                rules.look(had, needed, coins[p], Integer.bitCount(wholeHere), p);
                 price = rules.changed(price, kind[p]);
             }
-            return kinds[kind[p]].isAsked(price, coins[p], whole == 0);
+            return kinds[kind[p]].isAsked(price, coins[p], wholeHere == 0);
         }
 
         /** Whether that is the number of a CHANGE, and it CAN BE; any int may be asked for. */
@@ -1455,7 +1456,7 @@ public final class HadForVoice {
             return length;
         }
 
-        /** PEOPLE but for whom all others can be made WHOLE; they are counted as WHOLE where they are. */
+        /** PEOPLE but for whom all others can be made WHOLE. */
         int whoBars(Town now) {
             town.copyPlayFrom(now);
             ask(SHORTEST);

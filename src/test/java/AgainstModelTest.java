@@ -96,7 +96,7 @@ public final class AgainstModelTest {
 
     private String step() throws Exception {
         boolean isHeavy = model.w.people.size() > 4 && lot.nextInt(6) > 0;
-        switch (lot.nextInt(66)) {
+        switch (lot.nextInt(67)) {
             case 0: return lot.nextInt(4) > 0 && isSmall ? null
                 : call("person", some(1, 5), aThing(), aThing(), some(0, 999));
             case 1: case 2: case 3: return call("personOf", p(), some(0, 6));
@@ -153,6 +153,7 @@ public final class AgainstModelTest {
             case 59: return act();
             case 60: return call("many", some(0, 6));
             case 61: case 62: return stir();
+            case 63: return isHeavy ? null : whoBars();
             default: return lot.nextInt(9) == 0 ? call("keep") : call("again");
         }
     }
@@ -170,6 +171,20 @@ public final class AgainstModelTest {
             }
         }
         return wrong != null ? wrong : call("jar", thing(), 1 + lot.nextInt(2));
+    }
+
+    /** Prices that hang on how many are WHOLE, with one who is: those must not count whom bars() leaves out. */
+    private String whoBars() throws Exception {
+        String wrong = stir();
+        int people = model.w.people.size();
+        if (wrong != null || people == 0 || said.size() > 480) {
+            return wrong;
+        }
+        int p = lot.nextInt(people);
+        wrong = call("change", p, 1, model.w.people.get(p).needs);
+        String rule = "person if whole " + "<=>".charAt(lot.nextInt(3)) + " " + lot.nextInt(3) + " more 99;";
+        wrong = wrong != null ? wrong : tell(rule);
+        return wrong != null ? wrong : call("bars");
     }
 
     private String act() throws Exception {
@@ -217,6 +232,10 @@ public final class AgainstModelTest {
             String word = WORDS[lot.nextInt(WORDS.length)];
             text.replace(at, Math.min(text.length(), at + lot.nextInt(4)), word);
         }
+        return tell(text.toString());
+    }
+
+    private String tell(String text) throws Exception {
         String wrong = null;
         int i = 0;
         while (i < text.length() && wrong == null && said.size() < 500) {

@@ -92,6 +92,11 @@ final class Model {
             return set;
         }
 
+        /** As the document counts them: who is left out is as if not there. */
+        int wholeCount() {
+            return (int) people.stream().filter(b -> b.isWhole() && b.number != without).count();
+        }
+
         int coins() {
             return people.stream().mapToInt(b -> b.coins).sum();
         }
@@ -115,7 +120,7 @@ final class Model {
             int miser = Math.max(0, p - b.coins / 10);
             return switch (KINDS[b.kind]) {
                 case "miser" -> miser;
-                case "widow" -> wholeSet() == 0 ? miser / 2 : miser;
+                case "widow" -> wholeCount() == 0 ? miser / 2 : miser;
                 case "prince" -> 2 * p;
                 case "beast" -> Math.max(0, 2 * p - 7);
                 default -> p;
@@ -425,7 +430,7 @@ final class Model {
                 case "has" -> (w, b) -> w.worth[b.has];
                 case "need" -> (w, b) -> w.worth[b.needs];
                 case "coins" -> (w, b) -> b.coins;
-                case "whole" -> (w, b) -> Integer.bitCount(w.wholeSet());
+                case "whole" -> (w, b) -> w.wholeCount();
                 default -> (w, b) -> b.number;
             };
         }

@@ -10,6 +10,7 @@ public final class RowsTest {
         longRows();
         priceOfAWidow();
         bars();
+        leftOutInRules();
         jars();
         feeFor();
         bad();
@@ -174,7 +175,9 @@ public final class RowsTest {
         due(21, "what it cost", x.cheapest(2), 14 + 10);
         x.change(0, 1, 1);
         due(20, "the widow can't now", x.most(6), 1);
-        due(23, "she bars it; who is whole is still counted", x.bars(), 2);
+        due(23, "she bars it, or the maid: but for her nobody is whole", x.bars(), 3);
+        x.person(1, 2, 2, 0);
+        due(23, "but for one of two that are whole there is still the other one", x.bars(), 2);
     }
 
     private static void bars() {
@@ -193,6 +196,32 @@ public final class RowsTest {
         y.person(1, 1, 0, 0);
         y.meets(0, 2, true);
         due(23, "0 and 2 exchange, but for 1", y.bars(), 2);
+    }
+
+    /** Who is left out isn't one of those of whom a RULE asks how many are WHOLE. */
+    private static void leftOutInRules() {
+        HadForVoice x = Check.things();
+        x.person(1, 0, 1, 10);
+        x.person(1, 1, 1, 0);
+        x.person(1, 2, 2, 0);
+        x.jar(1, 1);
+        Check.rules(x, "maid if whole = 2 more 1;");
+        due(23, "but for 1 or 2 one is whole; but for 0 all are", x.bars(), 7);
+        Check.rules(x, "maid if whole > 0 more 1;");
+        due(23, "one of the two is there still", x.bars(), 1);
+        x.change(1, 1, 0);
+        x.change(1, 3, 10);
+        x.jar(1, 2);
+        due(23, "but for 2 one of them goes, and is there for the other one", x.bars(), 0);
+        Check.rules(x, "maid if number = 0 and whole < 2 more 1;");
+        due(23, "1 goes, then 0", x.bars(), 0);
+        x.change(2, 2, 3);
+        due(23, "2 can't be whole, but for it one alone is ahead of 0", x.bars(), 0);
+        Check.rules(x, "maid if number = 0 and whole > 0 more 1;");
+        due(23, "0 goes, then 1, but 2 can't", x.bars(), 4);
+        x.change(2, 1, 3);
+        due(23, "2 is whole, so that 0 can't go", x.bars(), 5);
+        due(23, "all are there behind it", x.personOf(0, 4), 11);
     }
 
     private static void jars() {
