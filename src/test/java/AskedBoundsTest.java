@@ -126,7 +126,7 @@ public final class AskedBoundsTest {
         due(26, "without 0 and 2", y.rings(3), 6);
     }
 
-    /** "Whatever that one NEEDS, if the THINGS are unlike and the WORTH of its own is that of the other one's or more". */
+    /** "If the THINGS are unlike and the WORTH of its own is that of the other one's or more", "whatever it NEEDS". */
     private static void barterByWorth() {
         for (int own = 0; own <= 99; own += 33) {
             for (int other = Math.max(0, own - 1); other <= Math.min(99, own + 1); other++) {

@@ -54,8 +54,8 @@ public final class HostBoundsTest {
     /** "Narrowed to its sort (booleans: whether it is not 0)"; "of longs the lowest 32 bits; of booleans 1, 0". */
     private static void narrowed() {
         int[] values = {
-            0, 1, -1, 2, 126, 127, 128, 129, 255, 256, -127, -128, -129, -256, 32766, 32767, 32768, 65535, 65536, -32767,
-            -32768, -32769, -65536, MAX, MAX - 1, MIN, MIN + 1, 0x12345678
+            0, 1, -1, 2, 126, 127, 128, 129, 255, 256, -127, -128, -129, -256, 32766, 32767, 32768, 65535, 65536,
+            -32767, -32768, -32769, -65536, MAX, MAX - 1, MIN, MIN + 1, 0x12345678
         };
         HadForVoice x = new HadForVoice();
         for (int sort = 0; sort < 5; sort++) {

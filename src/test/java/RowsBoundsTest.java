@@ -73,7 +73,7 @@ public final class RowsBoundsTest {
         }
     }
 
-    /** Checks fewest(), the FIRST shortest one, and for each n what is the least COST, and the FIRST with that. */
+    /** What the FIRST shortest ROW is, and how long. */
     private static void row(HadForVoice x, int... row) {
         due(17, "fewest()", x.fewest(), row.length);
         for (int i = 0; i < 6; i++) {
@@ -81,6 +81,7 @@ public final class RowsBoundsTest {
         }
     }
 
+    /** What the least COST is of n CHANGES or fewer, and the FIRST ROW of that. */
     private static void cheap(HadForVoice x, int n, int cost, int... row) {
         due(21, "cheapest(" + n + ")", x.cheapest(n), cost);
         for (int i = 0; i < 6; i++) {
@@ -88,7 +89,7 @@ public final class RowsBoundsTest {
         }
     }
 
-    /** "Of n or fewer": 0 and 1 exchange and 2 pays 10; or 0 goes to the witch, 1 and 2 exchange, and 1 goes for free. */
+    /** "Of n or fewer": 0 and 1 exchange, 2 pays 10; or 0 goes to the witch, 1 and 2 exchange, 1 goes for free. */
     private static void theLongerIsCheaper() {
         HadForVoice x = new HadForVoice();
         x.worth(0, 10);
@@ -180,9 +181,9 @@ public final class RowsBoundsTest {
     /** "PEOPLE but for whom a ROW would make all others WHOLE ... 0, if one does with all of them". */
     private static void whoBars() {
         for (int many = 0; many <= 6; many++) {
-            for (int short_ = 0; short_ <= Math.min(3, many); short_++) {
-                HadForVoice x = Check.lacking(many, many - short_);
-                due(23, short_ + " too few for " + many, x.bars(), short_ == 1 ? (1 << many) - 1 : 0);
+            for (int few = 0; few <= Math.min(3, many); few++) {
+                HadForVoice x = Check.lacking(many, many - few);
+                due(23, few + " too few for " + many, x.bars(), few == 1 ? (1 << many) - 1 : 0);
             }
         }
         for (int p = 0; p < 6; p++) {
@@ -233,7 +234,7 @@ public final class RowsBoundsTest {
         due(24, "both can be", x.jars(), -3);
     }
 
-    /** "Of several the least": of any two THINGS. */
+    /** "Of several the least": of any two THINGS; but if the one gives the JAR the other one, that lets both be WHOLE. */
     private static void ofSeveralTheLeast() {
         for (int t = 0; t < 8; t++) {
             for (int u = 0; u < 8; u++) {
@@ -241,11 +242,8 @@ public final class RowsBoundsTest {
                 x.person(1, (t + 1) % 8, t, 0);
                 due(24, "the one", x.jars(), t);
                 x.person(1, (u + 1) % 8, u, 0);
-                boolean isOneForBoth = u == (t + 1) % 8 || t == (u + 1) % 8;
-                int due = !isOneForBoth ? Math.min(t, u) : u == (t + 1) % 8 ? t : u;
-                if (t != u) {
-                    due(24, t + " and " + u, x.jars(), isOneForBoth ? due : Math.min(t, u));
-                }
+                int due = u == (t + 1) % 8 ? t : t == (u + 1) % 8 ? u : Math.min(t, u);
+                due(24, t + " and " + u, x.jars(), due);
             }
         }
     }

@@ -4,8 +4,8 @@ public final class RulesBoundsTest {
     private static final String[] KINDS = {"person", "maid", "miser", "widow", "prince", "beast"};
     private static final String[] FACTS = {"has", "need", "coins", "whole", "number"};
     private static final String[] OTHERS = {
-        "if", "more", "less", "free", "or", "and", "not", "(", ")", "<", "=", ">", ";", "5", "99", "100", "0099", "9999",
-        "10000", "00005", "witch", "x", "!", "-", "A", "\u00ff"
+        "if", "more", "less", "free", "or", "and", "not", "(", ")", "<", "=", ">", ";", "5", "99", "100", "0099",
+        "9999", "10000", "00005", "witch", "x", "!", "-", "A", "\u00ff"
     };
     private static final String EIGHT = "maid free;".repeat(8);
 
@@ -102,7 +102,8 @@ public final class RulesBoundsTest {
                 due(13, "\"" + text + "\" and a blank", told(text + " "), due == -100 - text.length() ? due - 1 : due);
             }
         }
-        due(13, "\"" + ahead + "\" and the end", told(ahead), isOneOf("end", can) ? many(ahead) : -100 - ahead.length());
+        int due = isOneOf("end", can) ? many(ahead) : -100 - ahead.length();
+        due(13, "\"" + ahead + "\" and the end", told(ahead), due);
     }
 
     private static boolean isOneOf(String one, String[] all) {
@@ -134,7 +135,8 @@ public final class RulesBoundsTest {
         place("maid free ", ";");
         place("maid free; ", kinds + " end");
         place("maid free;maid more 5;", kinds + " end");
-        for (String ahead : new String[] {"", "not ", "not not ", "( ", "not ( not ", "has<5 and ", "1=1 or ", "((1=1)or "}) {
+        String[] conds = {"", "not ", "not not ", "( ", "not ( not ", "has<5 and ", "1=1 or ", "((1=1)or "};
+        for (String ahead : conds) {
             place("maid if " + ahead, values + " not (");
         }
         for (String value : new String[] {"has", "need", "coins", "whole", "number", "0", "9999"}) {
@@ -193,7 +195,7 @@ public final class RulesBoundsTest {
     /** "More N | less N (0 to 99)": "N above 99 behind more or less". */
     private static void numbersOfRules() {
         String[] right = {"0", "1", "9", "10", "98", "99", "00", "000", "0000", "0099", "099", "0001"};
-        String[] wrong = {"100", "0100", "101", "999", "1000", "9999", "00099", "00000", "10000", "99999999999999999999"};
+        String[] wrong = {"100", "0100", "101", "999", "1000", "9999", "00099", "00000", "10000", "9999999999999"};
         for (String n : right) {
             HadForVoice x = new HadForVoice();
             x.worth(1, 99);
@@ -245,6 +247,7 @@ public final class RulesBoundsTest {
             boolean isLetter = c >= 'a' && c <= 'z';
             boolean isDigit = c >= '0' && c <= '9';
             boolean isBlank = b == 32;
+            boolean isSign = c == '<' || c == '=' || c == '>';
             due(13, "byte " + b + " alone", told("" + c), isBlank ? 0 : -100);
             due(13, "byte " + b + " behind a KIND", told("maid" + c), isLetter ? -100 : isBlank ? -105 : -104);
             due(13, "byte " + b + " ahead of a KIND", told(c + "maid free;"), isBlank ? 1 : -100);
@@ -253,7 +256,7 @@ public final class RulesBoundsTest {
                 : c == ';' ? -110 : -109);
             due(13, "byte " + b + " behind a NUMBER", told("maid more 9" + c + ";"), isBlank || isDigit ? 1
                 : c == ';' ? -112 : -111);
-            due(13, "byte " + b + " in a NUMBER", told("maid if 1" + c + "2 free;"), c == '<' || c == '=' || c == '>' ? 1
+            due(13, "byte " + b + " in a NUMBER", told("maid if 1" + c + "2 free;"), isSign ? 1
                 : isDigit ? -112 : isBlank ? -110 : -109);
             due(13, "byte " + b + " at the end", told("maid free;" + c), isBlank ? 1 : -110);
         }
@@ -358,7 +361,9 @@ public final class RulesBoundsTest {
     /** What the TAPE had told before stands behind no later TEXT. */
     private static void whatAnotherTextLeft() {
         HadForVoice x = new HadForVoice();
-        String[] texts = {"maid more ", "maid if 1", "mai", "maid", "maid free;maid if 1=1 more 9", "maid free", "maid more 5;"};
+        String[] texts = {
+            "maid more ", "maid if 1", "mai", "maid", "maid free;maid if 1=1 more 9", "maid free", "maid more 5;"
+        };
         int[] dues = {-110, -109, -100, -104, -128, -109, 1};
         for (String old : new String[] {"9", "z", "maid free;", "<", " ", "("}) {
             for (int k = 0; k < texts.length; k++) {

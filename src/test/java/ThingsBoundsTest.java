@@ -177,7 +177,8 @@ public final class ThingsBoundsTest {
     /** "p less a tenth of its COINS (0 at least)"; "quotients are cut towards 0". */
     private static void whatAMiserIsAsked() {
         int[][] tenths = {
-            {0, 0}, {1, 0}, {9, 0}, {10, 1}, {11, 1}, {19, 1}, {20, 2}, {99, 9}, {100, 10}, {989, 98}, {990, 99}, {999, 99}
+            {0, 0}, {1, 0}, {9, 0}, {10, 1}, {11, 1}, {19, 1}, {20, 2}, {99, 9}, {100, 10}, {989, 98}, {990, 99},
+            {999, 99}
         };
         for (int[] t : tenths) {
             for (int p : new int[] {t[1] - 1, t[1], t[1] + 1, 149}) {
@@ -287,7 +288,8 @@ public final class ThingsBoundsTest {
                 x.shelf(0, 0, kind - 1);
                 due(3, names[kind] + " by a RULE for " + names[above], x.personOf(kind - 1, 4) == 0 ? 1 : 0,
                     isUnder[kind][above] ? 1 : 0);
-                due(49, names[kind] + " taken for " + names[above], x.taken(0, above), isUnder[kind][above] ? kind - 1 : -13);
+                due(49, names[kind] + " taken for " + names[above], x.taken(0, above),
+                    isUnder[kind][above] ? kind - 1 : -13);
             }
         }
     }
