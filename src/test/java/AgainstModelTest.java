@@ -23,7 +23,7 @@ public final class AgainstModelTest {
 
     private AgainstModelTest(long seed) {
         lot = new Random(seed);
-        things = 2 + lot.nextInt(6);
+        things = 2 + lot.nextInt(7);
         isSmall = lot.nextInt(10) < 5;
     }
 
@@ -53,8 +53,9 @@ public final class AgainstModelTest {
         for (int t = 0; t < 8 && wrong == null; t++) {
             wrong = call("worth", t, lot.nextInt(100));
         }
+        int full = lot.nextInt(4) == 0 ? 10 : 3;
         for (int t = 0; t < 8 && wrong == null && lot.nextInt(3) > 0; t++) {
-            wrong = call("jar", t, lot.nextInt(3));
+            wrong = call("jar", t, lot.nextInt(full));
         }
         int people = lot.nextInt(20) == 0 ? 0 : isSmall ? 1 + lot.nextInt(4) : 4 + lot.nextInt(3);
         int rich = lot.nextInt(1000);
@@ -95,7 +96,7 @@ public final class AgainstModelTest {
     }
 
     private String step() throws Exception {
-        boolean isHeavy = model.w.people.size() > 4 && lot.nextInt(6) > 0;
+        boolean isHeavy = model.w.people.size() > 4 && lot.nextInt(3) > 0;
         switch (lot.nextInt(67)) {
             case 0: return lot.nextInt(4) > 0 && isSmall ? null
                 : call("person", some(1, 5), aThing(), aThing(), some(0, 999));
@@ -125,8 +126,8 @@ public final class AgainstModelTest {
             case 30: return isHeavy ? null : call("bars");
             case 31: return isHeavy ? null : call("jars");
             case 32: return isHeavy ? null : call("feeFor", some(1, 6));
-            case 33: return call("rings", some(2, 4));
-            case 34: return call("ring", some(2, 6), some(0, 3));
+            case 33: return call("rings", some(2, 6));
+            case 34: return call("ring", some(2, 6), some(0, 5));
             case 35: return call("comes", p(), some(0, 4));
             case 36: return call("dearest", p(), some(0, 4));
             case 37: return isHeavy ? null : call("game", some(1, 6));
